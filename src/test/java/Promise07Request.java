@@ -158,69 +158,82 @@ public final class Promise07Request {
         }
     }
 
-    /** Sends one request to slave 1 of x, which answers at once. */
+    /** Sends one request to slave 1 of x, which gets it at once. */
     private static void send(SerialPlant x, int function, int address, int count, long value) {
         x.request(1, function, address, count, value);
         x.tick();
     }
 
+    /** The tables of slave 1: its coils as the bits of a number, its holdings, and zeros in the others. */
+    private static void dueTables(SerialPlant x, int coils, int... holdings) {
+        for (int k = 0; k < 16; k++) {
+            Due.is("cell(1, 1, " + k + ")", x.cell(1, 1, k), coils >> k & 1);
+            Due.is("cell(1, 2, " + k + ")", x.cell(1, 2, k), 0);
+        }
+        for (int k = 0; k < 8; k++) {
+            Due.is("cell(1, 3, " + k + ")", x.cell(1, 3, k), k < holdings.length ? holdings[k] : 0);
+            Due.is("cell(1, 4, " + k + ")", x.cell(1, 4, k), 0);
+        }
+    }
+
     private static void writesACoil() {
         SerialPlant x = Plant.withSlaves(0);
         send(x, 5, 15, 0, 65280);
-        Due.is("cell(1, 1, 15)", x.cell(1, 1, 15), 1);
+        dueTables(x, 0x8000);
         send(x, 5, 15, 0, 1);
-        Due.is("cell(1, 1, 15) after a wrong word", x.cell(1, 1, 15), 1);
+        dueTables(x, 0x8000);
+        send(x, 5, 4, 16, 0xABCD_FF00L);
+        dueTables(x, 0x8010);
         send(x, 5, 15, 0, 0xFFFF_0000L);
-        Due.is("cell(1, 1, 15)", x.cell(1, 1, 15), 0);
-        send(x, 5, 0, 16, 0xABCD_FF00L);
-        Due.is("cell(1, 1, 0)", x.cell(1, 1, 0), 1);
-        Due.is("cell(1, 2, 0)", x.cell(1, 2, 0), 0);
+        dueTables(x, 0x0010);
+        send(x, 5, 0, 0, 65280);
+        dueTables(x, 0x0011);
     }
 
     private static void writesAHolding() {
         SerialPlant x = Plant.withSlaves(0);
         send(x, 6, 7, 0, 0x1_FFFE);
-        Due.is("cell(1, 3, 7)", x.cell(1, 3, 7), 0xFFFE);
+        dueTables(x, 0, 0, 0, 0, 0, 0, 0, 0, 0xFFFE);
         send(x, 6, 0, 16, -1);
-        Due.is("cell(1, 3, 0)", x.cell(1, 3, 0), 65535);
-        Due.is("cell(1, 3, 1)", x.cell(1, 3, 1), 0);
-        Due.is("cell(1, 4, 0)", x.cell(1, 4, 0), 0);
+        dueTables(x, 0, 65535, 0, 0, 0, 0, 0, 0, 0xFFFE);
+        send(x, 6, 4, 4, 0xFFFF_FFFF_FFFF_0102L);
+        dueTables(x, 0, 65535, 0, 0, 0, 0x0102, 0, 0, 0xFFFE);
     }
 
     private static void masksAHolding() {
         SerialPlant x = Plant.withSlaves(0);
         send(x, 6, 4, 0, 0x0012);
-        send(x, 22, 4, 0, 0x0025_00F2L);
-        Due.is("cell(1, 3, 4)", x.cell(1, 3, 4), 0x0017);
+        send(x, 22, 4, 3, 0x0025_00F2L);
+        dueTables(x, 0, 0, 0, 0, 0, 0x0017);
         send(x, 22, 4, 0, 0x7777_1234_0000_FFFFL);
-        Due.is("cell(1, 3, 4)", x.cell(1, 3, 4), 0x0017);
-        send(x, 22, 4, 0, 0xFFFF_0000L);
-        Due.is("cell(1, 3, 4)", x.cell(1, 3, 4), 65535);
+        dueTables(x, 0, 0, 0, 0, 0, 0x0017);
+        send(x, 22, 4, 16, 0xFFFF_0000L);
+        dueTables(x, 0, 0, 0, 0, 0, 65535);
     }
 
     private static void writesCoils() {
         SerialPlant x = Plant.withSlaves(0);
-        send(x, 15, 0, 16, 0xFFFF);
-        send(x, 15, 3, 9, 0xFFFF_FF00L | 0x55);
-        for (int k = 0; k < 16; k++) {
-            int due = k < 3 || k > 11 ? 1 : 0x155 >> (k - 3) & 1;
-            Due.is("cell(1, 1, " + k + ")", x.cell(1, 1, k), due);
-        }
+        send(x, 15, 3, 9, 0xFFFF_FF55L);
+        dueTables(x, 0x155 << 3);
+        send(x, 15, 0, 16, -1);
+        dueTables(x, 0xFFFF);
+        send(x, 15, 3, 9, 0x55);
+        dueTables(x, 0xF007 | 0x55 << 3);
+        send(x, 15, 0, 4, 0);
+        dueTables(x, 0xF000 | 0x55 << 3 & ~15);
         send(x, 15, 15, 1, 0xFFFE);
-        Due.is("cell(1, 1, 15)", x.cell(1, 1, 15), 0);
-        Due.is("cell(1, 1, 14)", x.cell(1, 1, 14), 1);
+        dueTables(x, 0x7000 | 0x55 << 3 & ~15);
     }
 
     private static void writesHoldings() {
         SerialPlant x = Plant.withSlaves(0);
         send(x, 16, 1, 3, 0xFFFF_8003_8002_8001L);
-        int[] due = {0, 0x8001, 0x8002, 0x8003, 0, 0, 0, 0};
-        for (int k = 0; k < 8; k++) {
-            Due.is("cell(1, 3, " + k + ")", x.cell(1, 3, k), due[k]);
-        }
+        dueTables(x, 0, 0, 0x8001, 0x8002, 0x8003);
         send(x, 16, 4, 4, 0xFFFF_0003_0002_0001L);
-        Due.is("cell(1, 3, 7)", x.cell(1, 3, 7), 65535);
-        Due.is("cell(1, 3, 4)", x.cell(1, 3, 4), 1);
+        dueTables(x, 0, 0, 0x8001, 0x8002, 0x8003, 1, 2, 3, 65535);
+        send(x, 16, 4, 1, 0xFFFF_0000L);
+        dueTables(x, 0, 0, 0x8001, 0x8002, 0x8003, 0, 2, 3, 65535);
+        Plant.dueReply(x, 2, 1, 0, 1);
     }
 
     private static void readsChangeNothing() {
@@ -230,11 +243,7 @@ public final class Promise07Request {
         }
         send(x, 8, 0, 0, -1);
         send(x, 7, 0, 1, -1);
-        for (int table = 1; table <= 4; table++) {
-            for (int k = 0; k < 8; k++) {
-                Due.is("cell(1, " + table + ", " + k + ")", x.cell(1, table, k), 0);
-            }
-        }
+        dueTables(x, 0);
     }
 
     private static void diagnosesListenOnly() {

@@ -49,7 +49,7 @@ final class Plant {
     }
 
     /** The sum by another road than the program's: a division of polynomials, the highest power first. */
-    private static int sumOf(int[] body) {
+    static int sumOf(int[] body) {
         int rest = 0xFFFF;
         for (int b : body) {
             for (int i = 0; i < 8; i++) {
