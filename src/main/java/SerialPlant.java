@@ -179,10 +179,10 @@ public final class SerialPlant {
     }
 
     public long reply(int n, int which) {
-        if (n < 0 || n >= requestCount) {
+        Request asked = n >= 0 && n < requestCount ? requests[n] : null;
+        if (asked == null) {
             return NONE;
         }
-        Request asked = requests[n];
         switch (which) {
             case 0:
                 return asked.state;
@@ -272,7 +272,7 @@ public final class SerialPlant {
     private void queuePolls() {
         for (int i = 0; i < pointCount; i++) {
             Poll poll = polls[i];
-            if (!isOnItsWay(poll)) {
+            if (poll != null && !isOnItsWay(poll)) {
                 enqueue(poll);
             }
         }
