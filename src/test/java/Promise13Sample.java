@@ -70,13 +70,15 @@ public final class Promise13Sample {
     }
 
     private static void storesTheLatestTwelve() {
-        SerialPlant x = Plant.withSlaves(0);
-        x.point(1, 4, 0);
-        for (int round = 1; round <= 27; round++) {
-            x.process(1, 4, 0, 1000 + round);
-            Plant.ticks(x, 8);
-            int oldest = round <= 12 ? 1 : round - 11;
-            int stored = round - oldest + 1;
+        for (int rounds = 1; rounds <= 27; rounds++) {
+            SerialPlant x = Plant.withSlaves(0);
+            x.point(1, 4, 0);
+            for (int round = 1; round <= rounds; round++) {
+                x.process(1, 4, 0, 1000 + round);
+                Plant.ticks(x, 8);
+            }
+            int oldest = rounds <= 12 ? 1 : rounds - 11;
+            int stored = rounds - oldest + 1;
             for (int k = 0; k < stored; k++) {
                 Plant.dueSample(x, k, 8 * (oldest + k), 0, 1000 + oldest + k);
             }
