@@ -8,7 +8,7 @@ public final class Edge10Reply {
         Due.holds("for 5, 6 and 8 the word after the address", Edge10Reply::oneWord);
         Due.holds("for 22 the two words (a in the lowest 16 bits)", Edge10Reply::twoWords);
         Due.holds("for 15 and 16 the count.", Edge10Reply::counts);
-        Due.holds("NONE when\nthere is no such request", Edge10Reply::noSuchRequest);
+        Due.holds("NONE when there is no such request", Edge10Reply::noSuchRequest);
         Due.holds("or which is not 0 .. 2.", Edge10Reply::noSuchWhich);
         Due.end();
     }

@@ -8,7 +8,7 @@ public final class EdgeTermsGateway {
         Due.holds("A request for a unit that is no attached slave, [..] is an EXCEPTION 10 at once.",
             EdgeTermsGateway::noAttachedSlave);
         Due.holds("or whose line has four in its queue, is an EXCEPTION 10 at once.", EdgeTermsGateway::fullQueue);
-        Due.holds("Else it is put at the end of the queue of\nits line.", EdgeTermsGateway::atTheEnd);
+        Due.holds("Else it is put at the end of the queue of its line.", EdgeTermsGateway::atTheEnd);
         Due.holds("A broadcast is BROADCAST at once", EdgeTermsGateway::broadcastAtOnce);
         Due.holds("and is put at the end of the queue of each line that has fewer than four there.",
             EdgeTermsGateway::broadcastsAndFullQueues);

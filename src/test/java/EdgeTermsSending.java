@@ -7,7 +7,7 @@ public final class EdgeTermsSending {
         Due.holds("if a fault waits for an answer's frame, this is damaged and the fault is over", EdgeTermsSending::answerFaultIsOver);
         Due.holds("Else the slaves of the line get it; if one answers, its answer's frame is sent",
             EdgeTermsSending::noAnswerNoFrame);
-        Due.holds("else the answer COMES after as many ticks as the slave's delay says\n(0: at once).",
+        Due.holds("else the answer COMES after as many ticks as the slave's delay says (0: at once).",
             EdgeTermsSending::delays);
         Due.holds("A job whose answer comes is over: a request gets the state ANSWERED or EXCEPTION by it, a poll is TAKEN,"
             + " and the line is busy no more.", EdgeTermsSending::jobIsOver);
@@ -92,6 +92,12 @@ public final class EdgeTermsSending {
         Plant.dueReply(x, 2, 0, 0, 0);
         Plant.ticks(x, 3);
         Plant.dueReply(x, 2, 2, 1, 0);
+        // So is the frame of an answer that would come too late.
+        SerialPlant late = Plant.withSlaves(3);
+        late.fault(0, true, 3);
+        late.request(1, 6, 0, 0, 6);
+        late.tick();
+        Due.yes("fault(0, true, 3) after a late answer", late.fault(0, true, 3));
     }
 
     private static void noAnswerNoFrame() {

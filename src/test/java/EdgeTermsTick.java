@@ -10,7 +10,7 @@ public final class EdgeTermsTick {
         Due.holds("or four are in the queue.", EdgeTermsTick::fourInTheQueue);
         Due.holds("Then for line 0, then line 1", EdgeTermsTick::lineZeroFirst);
         Due.holds("if the line is busy: when an answer comes now, its job is over", EdgeTermsTick::answerComesBeforeTheWaitEnds);
-        Due.holds("else if three ticks\nwent by since the latest sending", EdgeTermsTick::threeTicksSinceTheLatestSending);
+        Due.holds("else if three ticks went by since the latest sending", EdgeTermsTick::threeTicksSinceTheLatestSending);
         Due.holds("(two for a broadcast): a broadcast is over", EdgeTermsTick::twoTicksForABroadcast);
         Due.holds("a job with fewer than three attempts is sent again", EdgeTermsTick::fewerThanThreeAttempts);
         Due.holds("another is over, a request then being an EXCEPTION 11.", EdgeTermsTick::anotherIsOver);

@@ -2,6 +2,13 @@
 public final class EdgeTermsWell {
     private static final int[] OF_BITS = {1, 2, 15};
     private static final int[] OF_WORDS = {3, 4, 16};
+    /** Requests that are not well: function, address, count, value. */
+    private static final long[][] UNWELL = {
+        {7, 0, 1, -1}, {1, 0, 0, -1}, {1, 1, 16, 0}, {2, 0, 0, 0}, {2, 15, 2, 0}, {3, 0, 0, 0}, {3, 0, 5, 0},
+        {3, 5, 4, 0}, {4, 0, 16, 0}, {4, 8, 1, 0}, {5, 0, 0, 255}, {5, 16, 0, 0}, {6, 8, 0, 0}, {6, 65535, 0, 0},
+        {22, 8, 0, 0}, {22, 65535, 0, 0}, {15, 0, 0, 0}, {15, 1, 16, 0}, {15, 15, 2, 0}, {16, 0, 0, 0},
+        {16, 0, 5, 0}, {16, 0, 16, 0}, {16, 5, 4, 0}, {16, 7, 2, 0}, {16, 8, 1, 0}, {8, 2, 0, 0}, {8, 5, 0, 0},
+    };
 
     public static void main(String[] args) {
         Due.holds("A request is well when none of these holds, in this order", EdgeTermsWell::inThisOrder);
@@ -12,7 +19,7 @@ public final class EdgeTermsWell {
         Due.holds("or not 1 .. 4 (for 3, 4, 16)", EdgeTermsWell::countsOfWords);
         Due.holds("the word is neither 0 nor 65280 (5)", EdgeTermsWell::wordsForACoil);
         Due.holds("or the kind is not 0, 1 or 4 (8)", EdgeTermsWell::kindsOfDiagnosis);
-        Due.holds("2 if\naddress + count is more than 16 (1, 2, 15)", EdgeTermsWell::spansOfBits);
+        Due.holds("2 if address + count is more than 16 (1, 2, 15)", EdgeTermsWell::spansOfBits);
         Due.holds("or 8 (3, 4, 16)", EdgeTermsWell::spansOfWords);
         Due.holds("or the address more than 15 (5)", EdgeTermsWell::addressOfACoil);
         Due.holds("or 7 (6, 22)", EdgeTermsWell::addressOfAHolding);
@@ -69,13 +76,7 @@ public final class EdgeTermsWell {
     }
 
     private static void nothingIsDone() {
-        long[][] unwell = {
-            {7, 0, 1, -1}, {1, 0, 0, -1}, {1, 1, 16, 0}, {2, 0, 0, 0}, {2, 15, 2, 0}, {3, 0, 0, 0}, {3, 0, 5, 0},
-            {3, 5, 4, 0}, {4, 0, 16, 0}, {4, 8, 1, 0}, {5, 0, 0, 255}, {5, 16, 0, 0}, {6, 8, 0, 0}, {6, 65535, 0, 0},
-            {22, 8, 0, 0}, {22, 65535, 0, 0}, {15, 0, 0, 0}, {15, 1, 16, 0}, {15, 15, 2, 0}, {16, 0, 0, 0},
-            {16, 0, 5, 0}, {16, 0, 16, 0}, {16, 5, 4, 0}, {16, 7, 2, 0}, {16, 8, 1, 0}, {8, 2, 0, 0}, {8, 5, 0, 0},
-        };
-        for (long[] u : unwell) {
+        for (long[] u : UNWELL) {
             SerialPlant x = filled();
             String request = "after function " + u[0] + " at " + u[1] + ", count " + u[2] + ": ";
             x.request(1, (int) u[0], (int) u[1], (int) u[2], u[3]);
@@ -85,18 +86,32 @@ public final class EdgeTermsWell {
             Due.is(request + "wire(0, true, 0)", x.wire(0, true, 0), 1);
             Due.is(request + "wire(0, true, 1)", x.wire(0, true, 1), u[0] + 128);
             Due.is(request + "wire(0, true, 2)", x.wire(0, true, 2), x.reply(3, 1));
-            for (int k = 0; k < 16; k++) {
-                Due.is(request + "cell(1, 1, " + k + ")", x.cell(1, 1, k), 1);
-                Due.is(request + "cell(1, 2, " + k + ")", x.cell(1, 2, k), 1);
-            }
-            for (int k = 0; k < 8; k++) {
-                Due.is(request + "cell(1, 3, " + k + ")", x.cell(1, 3, k), 0x1234);
-                Due.is(request + "cell(1, 4, " + k + ")", x.cell(1, 4, k), 0x1234);
-            }
-            x.request(1, 8, 0, 0, 5);
-            x.tick();
-            Due.is(request + "the slave still speaks: reply(4, 2)", x.reply(4, 2), 5);
+            dueFilled(request, x);
         }
+        // The same of a broadcast, but that nobody answers.
+        for (long[] u : UNWELL) {
+            SerialPlant x = filled();
+            String request = "after a broadcast of function " + u[0] + " at " + u[1] + ", count " + u[2] + ": ";
+            x.request(0, (int) u[0], (int) u[1], (int) u[2], u[3]);
+            Plant.ticks(x, 3);
+            Due.is(request + "reply(3, 0)", x.reply(3, 0), 3);
+            dueFilled(request, x);
+        }
+    }
+
+    /** Slave 1 is as it was filled, and not in listen-only mode. */
+    private static void dueFilled(String request, SerialPlant x) {
+        for (int k = 0; k < 16; k++) {
+            Due.is(request + "cell(1, 1, " + k + ")", x.cell(1, 1, k), 1);
+            Due.is(request + "cell(1, 2, " + k + ")", x.cell(1, 2, k), 1);
+        }
+        for (int k = 0; k < 8; k++) {
+            Due.is(request + "cell(1, 3, " + k + ")", x.cell(1, 3, k), 0x1234);
+            Due.is(request + "cell(1, 4, " + k + ")", x.cell(1, 4, k), 0x1234);
+        }
+        int n = x.request(1, 8, 0, 0, 5);
+        x.tick();
+        Due.is(request + "the slave still speaks: reply(" + n + ", 2)", x.reply(n, 2), 5);
     }
 
     private static void noSuchFunction() {
