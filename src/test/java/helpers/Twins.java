@@ -103,7 +103,7 @@ final class Twins {
         x.fault(1, false, 9);
     }
 
-    /** T is 33. All that can be full is: slaves, points, samples (with some gone), requests, queues, faults. */
+    /** T is 37. All that can be full is: slaves, points, samples (with some gone), requests, lines, queues, faults. */
     private static void makeFull(Watched x) {
         int[] delays = {0, 1, 2, 0, 3, 5};
         for (int slave = 1; slave <= 6; slave++) {
@@ -118,6 +118,8 @@ final class Twins {
             }
             ticks(x, 8);
         }
+        // The polls of 32 are over before the lines get the last requests.
+        ticks(x, 4);
         for (int n = 0; n < 54; n++) {
             x.request(200, 3, 0, 1, 0);
         }
